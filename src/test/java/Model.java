@@ -395,7 +395,7 @@ final class Model {
         }
     }
 
-    private Block knownBlock(String name) {
+    Block knownBlock(String name) {
         for (Block block : known) {
             if (block.name.equals(name)) {
                 return block;
@@ -632,7 +632,7 @@ final class Model {
         }
     }
 
-    private Ledger ledger() {
+    Ledger ledger() {
         if (ledgerBlock != tip) {
             ledger = ledgerOf(tip);
             ledgerBlock = tip;
@@ -640,7 +640,7 @@ final class Model {
         return ledger;
     }
 
-    private static Ledger ledgerOf(Block tip) {
+    static Ledger ledgerOf(Block tip) {
         Ledger ledger = new Ledger();
         for (Block block : chainOf(tip)) {
             for (Tx tx : block.txs) {
