@@ -5,6 +5,7 @@ public final class CoinNode {
     private static final int PEERS = 4;
     private static final int TAPE_BYTES = 2000;
     private static final int BOX_BYTES = 8000;
+    private static final int FRAME_BYTES = 2000;
     private static final int NAME = 32;
     private static final int HEAD = 80;
     private static final int MOST_NAMES = 20;
@@ -26,7 +27,7 @@ public final class CoinNode {
     private final byte[][] boxes = new byte[PEERS][BOX_BYTES];
     private final int[] boxStarts = new int[PEERS];
     private final int[] boxSizes = new int[PEERS];
-    private final byte[] frame = new byte[BOX_BYTES];
+    private final byte[] frame = new byte[FRAME_BYTES];
     private int frameSize;
     private final Hash hash = new Hash();
     private final Scripts scripts = new Scripts(hash);
@@ -416,7 +417,9 @@ public final class CoinNode {
                 return;
             }
             System.arraycopy(row, from, ready, 0, size);
-            Arrays.fill(ready, size, size + 72, (byte) 0);
+            for (int i = size; i < size + 72; i++) {
+                ready[i] = 0;
+            }
             ready[size] = (byte) 128;
             readySize = size;
         }
@@ -803,7 +806,7 @@ public final class CoinNode {
             for (int i = 0; i < many; i++) {
                 System.arraycopy(txs[i].name, 0, names, NAME * i, NAME);
             }
-            while (many > 1) {
+            for (int turn = 0; turn < MOST && many > 1; turn++) {
                 int pairs = 0;
                 for (int i = 0; i < many; i += 2) {
                     boolean alone = i + 1 == many;
