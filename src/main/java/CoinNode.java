@@ -19,6 +19,7 @@ public final class CoinNode {
     private static final int I_HAVE = 6;
     private static final int I_HAVE_NOT = 7;
     private static final int VERDICT = 8;
+    private static final int NOT_UNDERSTOOD = 1;
 
     private final byte[] tape = new byte[TAPE_BYTES];
     private int tapeSize;
@@ -61,7 +62,17 @@ public final class CoinNode {
                 takeTransaction(peer, message);
                 break;
             case BLOCK:
-                takeBlock(peer, message);
+                // not in a method of its own: from here the calls go as deep as they may
+                Block before = chain.tip;
+                Block block = Block.read(message, hash);
+                int code = block == null ? NOT_UNDERSTOOD : chain.refusal(block);
+                if (block != null && code == 0) {
+                    code = chain.adopt(block);
+                }
+                if (chain.tip != before) {
+                    pool.makeAnew(chain.left, chain.leftMany, chain.tip.height + 1);
+                }
+                answerBlock(peer, block, code, chain.tip != before);
                 break;
             case WHAT_IS_BEHIND:
                 answerWhatIsBehind(peer, message);
@@ -73,7 +84,7 @@ public final class CoinNode {
                 answerIHave(peer, message);
                 break;
             default:
-                answerVerdict(peer, 1, null);
+                answerVerdict(peer, NOT_UNDERSTOOD, null);
         }
         return true;
     }
@@ -164,7 +175,7 @@ public final class CoinNode {
     private void takeTransaction(int peer, byte[] message) {
         Tx tx = Tx.read(message, 1);
         if (tx == null || 1 + tx.size != message.length) {
-            answerVerdict(peer, 1, null);
+            answerVerdict(peer, NOT_UNDERSTOOD, null);
             return;
         }
         hash.name(message, 1, tx.size, tx.name);
@@ -175,26 +186,13 @@ public final class CoinNode {
         }
     }
 
-    private void takeBlock(int peer, byte[] message) {
-        Block block = Block.read(message, hash);
-        if (block == null) {
-            answerVerdict(peer, 1, null);
-            return;
-        }
-        Block before = chain.tip;
-        int code = chain.refusal(block);
-        if (code == Chain.ORPHAN) {
+    private void answerBlock(int peer, Block block, int code, boolean isTip) {
+        if (block != null && code == Chain.ORPHAN) {
             askWhatIsBehind(peer);
             return;
         }
-        if (code == 0) {
-            code = chain.adopt(block);
-        }
-        if (chain.tip != before) {
-            pool.makeAnew(chain.left, chain.leftMany, chain.tip.height + 1);
-        }
-        answerVerdict(peer, code, block.name);
-        if (chain.tip != before) {
+        answerVerdict(peer, code, block == null ? null : block.name);
+        if (isTip) {
             tellOthers(peer, BLOCK, chain.tip.name);
         }
     }
@@ -249,7 +247,7 @@ public final class CoinNode {
     private void answerWhatIsBehind(int peer, byte[] message) {
         int names = message.length < 2 ? -1 : message[1];
         if (names < 0 || names > MOST_NAMES || message.length != 2 + NAME * names) {
-            answerVerdict(peer, 1, null);
+            answerVerdict(peer, NOT_UNDERSTOOD, null);
             return;
         }
         int height = 0;
@@ -274,7 +272,7 @@ public final class CoinNode {
 
     private void answerGive(int peer, byte[] message) {
         if (!isList(message)) {
-            answerVerdict(peer, 1, null);
+            answerVerdict(peer, NOT_UNDERSTOOD, null);
             return;
         }
         for (int at = 2; at + NAME < message.length; at += 1 + NAME) {
@@ -296,7 +294,7 @@ public final class CoinNode {
 
     private void answerIHave(int peer, byte[] message) {
         if (!isList(message)) {
-            answerVerdict(peer, 1, null);
+            answerVerdict(peer, NOT_UNDERSTOOD, null);
             return;
         }
         begin(GIVE);
