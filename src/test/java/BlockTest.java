@@ -542,6 +542,13 @@ final class BlockTest {
     }
 
     private static void twice() {
+        // the only coin that there is
+        node = new Kit.Node(true);
+        blocks = Kit.grow(node, Kit.first(), 1, 1, 1, 81);
+        last = blocks.get(0);
+        Kit.Block copy = next();
+        copy.txs.set(0, last.txs.get(0));
+        bad("the only coin", copy, 36);
         fresh();
         Kit.Tx same = blocks.get(0).txs.get(0);
         Kit.Block block = next();
