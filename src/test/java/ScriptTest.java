@@ -421,6 +421,8 @@ final class ScriptTest {
         no(0, 0, 174);
         no(0, b(0, 0, 0, 0, 0), 174);
         no(0, b(0, 0, 0, 0, 0), 0, 174);
+        no(0, 0, b(0, 0, 0, 0, 0), 174);
+        no(0, 0, b(8, 0, 0, 0, 0), 174);
         yes(0, b(0, 0, 0, 0), b(0, 0, 0, 128), 174);
         yes(81, 0, none, none, 174, 105);
         // signatures that fit, in their order
