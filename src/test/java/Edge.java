@@ -7,9 +7,9 @@ import java.util.List;
 import java.util.Set;
 
 /**
- * One test for each edge that the document names: it says the promise and, word for word, the sentence that it is for.
- * Behind all edges it is looked whether every word of the promises and their terms stands in a sentence that was tried
- * or was told to have no edge.
+ * One test for each edge that the document names: it says the promise (0 for what the document says beside them) and,
+ * word for word, the sentence that it is for. Behind all edges it is looked whether every word of the document stands in
+ * a sentence that was tried or was told to have no edge.
  */
 final class Edge {
     private static final Set<String> QUOTED = new LinkedHashSet<>();
@@ -96,14 +96,9 @@ final class Edge {
         return doc;
     }
 
-    /** The promises and their terms, without headings, marks and the heads of the methods; one blank between words. */
+    /** The document from its first line to its last, without headings and marks; one blank between words. */
     private static String plain(String whole) {
-        int uses = whole.indexOf("An object is used for");
-        int face = whole.indexOf("## The public face");
-        int terms = whole.indexOf("## Terms");
-        int rest = whole.indexOf("## Not promised");
-        String kept = whole.substring(uses, face) + whole.substring(terms, rest);
-        return kept.replaceAll("(?m)^(#|====|```).*$", "").replaceAll("(?m)^`[^`]*`: ", "").replaceAll("\\s+", " ");
+        return whole.replaceAll("(?m)^(#|====|```).*$", "").replaceAll("\\s+", " ");
     }
 
     private static void quote(String sentence) {

@@ -1,4 +1,4 @@
-/** Every edge that the document names, sentence by sentence: promises 1 to 10. "EdgesTest list" tells each of them. */
+/** The document from its first line to its last: every edge that it names. "EdgesTest list" tells each of them. */
 final class EdgesTest {
     public static void main(String[] args) {
         if (args.length > 0 && args[0].equals("list")) {
@@ -9,6 +9,7 @@ final class EdgesTest {
     }
 
     static void all() {
+        WholeEdges.all();
         FaceEdges.all();
         BytesEdges.all();
         BlockEdges.all();
