@@ -538,20 +538,15 @@ final class MessageEdges {
     }
 
     private static void notToldOfLeft() {
-        // a long run, as 40 times the answers are fetched
-        Run run = new Wide(true).fill(0, 40, 1000, 0).run;
-        Edge.due("full", run.count(3), 40);
-        for (int peer = 0; peer < 4; peer++) {
-            run.answers(peer);
-        }
-        Kit.Tx poor = run.spend(1, 7).out(Run.RICH - 1);
+        Wide wide = new Wide();
+        Run run = wide.fillByBranch(wide.forty(1000)).run;
+        run.answers(2);
+        Kit.Tx poor = wide.pay(40, 1);
         Edge.due("the sender", run.ask(1, poor.message()), List.of("080b" + Model.hex(poor.name())));
-        for (int peer = 0; peer < 4; peer++) {
-            Edge.due("nobody else", run.fetch(peer), 0L);
-        }
-        Kit.Tx rich = run.spend(1, 7).out(1);
+        Edge.due("nobody else", run.fetch(2), 0L);
+        Kit.Tx rich = wide.pay(40, 2000);
         Edge.due("the sender", run.ask(1, rich.message()), List.of("0800" + Model.hex(rich.name())));
-        Edge.due("another, of this one alone", run.answers(0), List.of("060101" + Model.hex(rich.name())));
+        Edge.due("another, of this one alone", run.answers(2), List.of("060101" + Model.hex(rich.name())));
     }
 
     private static void toldOfTips() {

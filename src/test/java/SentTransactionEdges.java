@@ -362,7 +362,7 @@ final class SentTransactionEdges {
     }
 
     private static void fortyOne() {
-        Wide wide = new Wide(false).fill(0, 39, 1000, 1);
+        Wide wide = new Wide().fill(0, 39, 1000, 1);
         Run run = wide.run;
         Edge.due("39", run.count(3), 39);
         wide.fill(39, 40, 999, 0);
@@ -377,22 +377,20 @@ final class SentTransactionEdges {
     }
 
     private static void newestIsLeast() {
-        // a long run, as the answers of 40 are fetched
-        Wide wide = new Wide(true).fill(0, 40, 1000, 1);
-        Run run = wide.run;
-        long fees = run.fees();
-        run.answers(0);
-        Edge.due("less than the least", run.code(wide.pay(40, 999)), 11);
-        Edge.due("nothing has changed", run.fees(), fees);
-        Edge.due("as much as the least, but later", run.code(wide.pay(40, 1000)), 11);
-        Edge.due("nothing has changed", run.fees(), fees);
-        Edge.due("more", run.code(wide.pay(40, 1001)), 0);
-        Edge.due("the least is gone", run.fees(), fees - 1000 + 1001);
+        Wide wide = new Wide();
+        Run run = wide.fillByBranch(wide.forty(1000)).run;
+        Edge.due("the fees of 40", run.fees(), fees(1000, 40));
+        Edge.due("less than the least", wide.code(wide.pay(40, 999)), 11);
+        Edge.due("nothing has changed", run.fees(), fees(1000, 40));
+        Edge.due("as much as the least, but later", wide.code(wide.pay(40, 1000)), 11);
+        Edge.due("nothing has changed", run.fees(), fees(1000, 40));
+        Edge.due("more", wide.code(wide.pay(40, 1001)), 0);
+        Edge.due("the least is gone", run.fees(), fees(1000, 40) - 1000 + 1001);
     }
 
     private static void likeOnes() {
         // all alike: the newest goes
-        Wide wide = new Wide(false).fill(0, 40, 1000, 0);
+        Wide wide = new Wide().fill(0, 40, 1000, 0);
         Run run = wide.run;
         Kit.Tx first = wide.pay(40, 1000);
         run.put(first);
@@ -400,7 +398,7 @@ final class SentTransactionEdges {
         run.put(new Kit.Tx().in(first, 0, 81).out(0));
         Edge.due("the newest is not there", run.fees(), 40 * 1000L);
         // of two like ones below all others the later goes: its child has no coin then
-        wide = new Wide(false);
+        wide = new Wide();
         run = wide.run;
         Kit.Tx early = wide.pay(0, 500);
         Kit.Tx late = wide.pay(1, 500);
@@ -425,7 +423,7 @@ final class SentTransactionEdges {
 
     private static void likeBySize() {
         for (boolean longFirst : new boolean[] {true, false}) {
-            Wide wide = new Wide(false);
+            Wide wide = new Wide();
             Run run = wide.run;
             Kit.Tx twice = twiceAsLong(wide, 0, 1000);
             Kit.Tx once = wide.pay(1, 500);
@@ -438,14 +436,14 @@ final class SentTransactionEdges {
     private static void exact() {
         // 1000 by 122 and 500 by 61 are like; one less, or one more, is not, though both are 8 when rounded down
         for (int more : new int[] {-1, 1}) {
-            Wide wide = new Wide(false);
+            Wide wide = new Wide();
             Run run = wide.run;
             run.put(twiceAsLong(wide, 0, 1000 + more), wide.pay(1, 500));
             wide.fill(2, 41, 700, 0);
             Edge.due("the less dear is gone", run.fees(), 39 * 700L + (more < 0 ? 500 : 1001));
         }
         for (int more : new int[] {-1, 1}) {
-            Wide wide = new Wide(false);
+            Wide wide = new Wide();
             Run run = wide.run;
             run.put(wide.pay(1, 500), twiceAsLong(wide, 0, 1000 + more));
             wide.fill(2, 41, 700, 0);
@@ -454,7 +452,7 @@ final class SentTransactionEdges {
     }
 
     private static void noFees() {
-        Wide wide = new Wide(false);
+        Wide wide = new Wide();
         Run run = wide.run;
         run.put(twiceAsLong(wide, 0, 0));
         wide.fill(1, 39, 0, 0);
@@ -476,7 +474,7 @@ final class SentTransactionEdges {
     }
 
     private static void richChild() {
-        Wide wide = new Wide(false);
+        Wide wide = new Wide();
         Run run = wide.run;
         Kit.Tx parent = wide.pay(0, 0);
         Kit.Tx child = child(parent, 4000);
@@ -493,7 +491,7 @@ final class SentTransactionEdges {
     }
 
     private static void poorFamily() {
-        Wide wide = new Wide(false);
+        Wide wide = new Wide();
         Run run = wide.run;
         Kit.Tx parent = wide.pay(0, 0);
         Kit.Tx child = child(parent, 1200);
@@ -502,7 +500,7 @@ final class SentTransactionEdges {
         Edge.due("both are gone", run.count(3), 39);
         Edge.due("fees", run.fees(), fees(1000, 39));
         // as much by size as the others: the later of them goes, not the family
-        wide = new Wide(false);
+        wide = new Wide();
         run = wide.run;
         parent = wide.pay(0, 0);
         run.put(parent, child(parent, 2000));
@@ -513,7 +511,7 @@ final class SentTransactionEdges {
 
     private static void grandchildren() {
         for (long last : new long[] {5000, 100}) {
-            Wide wide = new Wide(false);
+            Wide wide = new Wide();
             Run run = wide.run;
             Kit.Tx parent = wide.pay(0, 0);
             Kit.Tx child = child(parent, 0);
@@ -527,7 +525,7 @@ final class SentTransactionEdges {
 
     private static void twoParents() {
         // both parents' outputs go to one child: each one's family is itself and the child
-        Wide wide = new Wide(false);
+        Wide wide = new Wide();
         Run run = wide.run;
         Kit.Tx one = wide.pay(0, 0);
         Kit.Tx two = wide.pay(1, 500);
@@ -537,7 +535,7 @@ final class SentTransactionEdges {
         Edge.due("one and the child are gone", run.count(3), 39);
         Edge.due("two has stayed", run.fees(), 500 + fees(1000, 38));
         // an output twice used by one child's two inputs, and a grandchild that spends of both, count once
-        wide = new Wide(false);
+        wide = new Wide();
         run = wide.run;
         Kit.Tx parent = wide.pay(0, 0);
         parent.outs.get(0).value = 1000;
@@ -551,30 +549,26 @@ final class SentTransactionEdges {
     }
 
     private static void newestInFamily() {
-        // a long run, as the answers of 40 are fetched
-        Wide wide = new Wide(true);
-        Run run = wide.run;
+        Wide wide = new Wide();
+        Kit.Tx[] forty = wide.forty(1199);
         Kit.Tx parent = wide.pay(0, 1100);
-        run.put(parent);
-        wide.fill(1, 40, 1200, 1);
-        run.answers(0);
-        Edge.due("40", run.count(3), 40);
+        forty[0] = parent;
+        Run run = wide.fillByBranch(forty).run;
         // the child pays enough for itself, but its parent's family has less than all others
-        Edge.due("it brings its parent down, and goes with it", run.code(child(parent, 1250)), 11);
+        Edge.due("it brings its parent down, and goes with it", wide.code(child(parent, 1250)), 11);
         Edge.due("39", run.count(3), 39);
         Edge.due("fees", run.fees(), fees(1200, 39));
-        Edge.due("the parent may come again", run.code(parent), 0);
-        Edge.due("with a child that pays more", run.code(child(parent, 1400)), 0);
+        Edge.due("the parent may come again", wide.code(parent), 0);
+        Edge.due("with a child that pays more", wide.code(child(parent, 1400)), 0);
         Edge.due("the least of the others is gone", run.fees(), fees(1200, 39) - 1200 + 1100 + 1400);
     }
 
     private static void otherwise() {
-        // a long run, as the answers of 40 are fetched
-        Wide wide = new Wide(true).fill(0, 40, 1000, 1);
-        Run run = wide.run;
-        run.answers(0);
-        Edge.due("another one goes", run.code(wide.pay(40, 2000)), 0);
-        Edge.due("the one that is gone may not come again", run.code(wide.pay(0, 1000)), 11);
+        Wide wide = new Wide();
+        Run run = wide.fillByBranch(wide.forty(1000)).run;
+        Edge.due("another one goes", wide.code(wide.pay(40, 2000)), 0);
+        Edge.due("40", run.count(3), 40);
+        Edge.due("the one that is gone may not come again", wide.code(wide.pay(0, 1000)), 11);
     }
 
     private static void noAge() {
@@ -737,7 +731,7 @@ final class SentTransactionEdges {
     }
 
     private static void moreThanForty() {
-        Wide wide = new Wide(false);
+        Wide wide = new Wide();
         Run run = wide.run;
         Kit.Block below = run.tip();
         for (int i = 0; i < 4; i++) {

@@ -1,4 +1,5 @@
 import java.util.ArrayList;
+import java.util.Arrays;
 import java.util.List;
 
 /** A run whose pool may be filled: 48 coins that anybody may spend at once, as no first transaction made them. */
@@ -8,8 +9,8 @@ final class Wide {
     final Run run;
     private final List<Kit.Tx> makers = new ArrayList<>();
 
-    Wide(boolean isLong) {
-        run = new Run(isLong).grow(8, 8);
+    Wide() {
+        run = new Run().grow(8, 8);
         Kit.Block block = run.next();
         for (int i = 0; i < 6; i++) {
             Kit.Tx tx = run.spend(1, i);
@@ -34,5 +35,41 @@ final class Wide {
             run.put(pay(i, fee + step * (i - from)));
         }
         return this;
+    }
+
+    /**
+     * Fills the pool with the transactions of four blocks that are left for another branch: nothing is told of them, so
+     * that what waits for a peer is soon fetched. Peer 1 has nothing waiting then.
+     */
+    Wide fillByBranch(Kit.Tx... forty) {
+        Kit.Block over = run.tip();
+        for (int i = 0; i < 4; i++) {
+            run.add(run.next(Arrays.copyOfRange(forty, 10 * i, 10 * i + 10)));
+        }
+        for (int i = 0; i < 5; i++) {
+            over = Run.behind(over);
+            run.put(over);
+        }
+        run.tip("over", over);
+        Edge.due("40 wait", run.count(3), 40);
+        run.answers(1);
+        return this;
+    }
+
+    /** Forty that pay a fee, and each one more than the one before it. */
+    Kit.Tx[] forty(long fee) {
+        Kit.Tx[] out = new Kit.Tx[40];
+        for (int i = 0; i < out.length; i++) {
+            out[i] = pay(i, fee + i);
+        }
+        return out;
+    }
+
+    /** Sends from peer 1 and tells the code of the verdict. */
+    int code(Kit.Tx tx) {
+        List<String> answers = run.ask(1, tx.message());
+        String name = Model.hex(tx.name());
+        boolean isVerdict = answers.size() == 1 && answers.get(0).matches("08.." + name);
+        return isVerdict ? Integer.parseInt(answers.get(0).substring(2, 4), 16) : -1;
     }
 }
